@@ -966,9 +966,7 @@ public final class ObedientDice {
                 case DIGIT:
                     return acceptsDigit(sign);
                 case COMMA:
-                    player = 1;
-                    due = NUMBER;
-                    return sign == ',';
+                    return sign == ',' && acceptsComma();
                 default:
                     return sign == '/' ? acceptsSlash() : sign == ';' && acceptsSemicolon();
             }
@@ -993,6 +991,12 @@ public final class ObedientDice {
                 due = BEHIND_CELL;
                 cellsOfRow++;
             }
+            return true;
+        }
+
+        private boolean acceptsComma() {
+            player = 1;
+            due = NUMBER;
             return true;
         }
 
