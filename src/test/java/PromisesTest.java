@@ -7,11 +7,6 @@ public final class PromisesTest {
     private static final int NOT_POSSIBLE = ObedientDice.NOT_POSSIBLE;
     private static final int NONE = ObedientDice.NONE;
 
-    private static final String CHICKEN = "6,6;2,7/7,2;0,0";
-    private static final String PENNIES = "1,-1;-1,1/-1,1;1,-1";
-    private static final String BATTLE = "5,3;0,0/0,0;3,5";
-    // its extreme dice 0, 1 and 4 have weights above 999
-    private static final String STEEP = "-4,8;5,6;-9,0/6,-8;-6,-1;4,0";
     private static final int[] WRONG = {Integer.MIN_VALUE, -1, Integer.MAX_VALUE};
 
     private PromisesTest() {
@@ -22,12 +17,6 @@ public final class PromisesTest {
         Due.is("cells " + when, dice.count(1), weights.length);
         for (int i = 0; i < weights.length; i++) {
             Due.is("weight " + i + " " + when, dice.cell(i / columns, i % columns, 2), weights[i]);
-        }
-    }
-
-    private static void extreme(ObedientDice dice, int number, int... weights) {
-        for (int i = 0; i < weights.length; i++) {
-            Due.is("extreme(" + number + ", " + i + ")", dice.extreme(number, i), weights[i]);
         }
     }
 
@@ -48,7 +37,7 @@ public final class PromisesTest {
     }
 
     private static void begin() {
-        ObedientDice dice = Texts.game(CHICKEN);
+        ObedientDice dice = Texts.game(Games.CHICKEN);
         dice.weigh(0, 0, 9);
         dice.roll(5);
         int thrower = dice.count(10);
@@ -123,7 +112,7 @@ public final class PromisesTest {
     }
 
     private static void take() {
-        ObedientDice dice = Texts.game(STEEP);
+        ObedientDice dice = Texts.game(Games.STEEP);
         Due.is("take, above 999", dice.take(0), TOO_MANY);
         Due.is("take, above 999", dice.take(4), TOO_MANY);
         weights("after no take", dice, 1, 1, 1, 1, 1, 1);
@@ -139,8 +128,8 @@ public final class PromisesTest {
     }
 
     private static void mix() {
-        ObedientDice dice = Texts.game(CHICKEN);
-        extreme(dice, 1, 4, 2, 2, 1);
+        ObedientDice dice = Texts.game(Games.CHICKEN);
+        Games.extremeIs(dice, 1, 4, 2, 2, 1);
         Due.is("mix(1, 3, 2)", dice.mix(1, 3, 2), 30);
         weights("after mix", dice, 11, 7, 7, 5);
         Due.is("mix(1, 0, 9)", dice.mix(1, 0, 9), 81);
@@ -253,7 +242,7 @@ public final class PromisesTest {
     }
 
     private static void cell() {
-        ObedientDice dice = Texts.game(CHICKEN);
+        ObedientDice dice = Texts.game(Games.CHICKEN);
         dice.weigh(1, 0, 7);
         dice.roll(20);
         Due.is("points 0", dice.cell(1, 0, 0), 107);
@@ -274,7 +263,7 @@ public final class PromisesTest {
             Due.is("cell, wrong column", dice.cell(0, wrong, wrong), NO_SUCH);
             Due.is("cell, wrong what", dice.cell(0, 0, wrong), BAD_VALUE);
         }
-        ObedientDice prison = Texts.game("3,3;0,5/5,0;1,1");
+        ObedientDice prison = Texts.game(Games.PRISON);
         for (int i = 0; i < 4; i++) {
             Due.is("prison sure " + i, prison.cell(i / 2, i % 2, 4), i == 3 ? 1 : 0);
             Due.is("prison told " + i, prison.cell(i / 2, i % 2, 5), i == 3 ? 1 : 0);
@@ -287,7 +276,7 @@ public final class PromisesTest {
         names(dice, of2);
         dice.begin(3);
         names(dice, new int[][] {{0, 0, 1}, {0, 1, 0}, {1, 0, 1}, {1, 0, 2}, {1, 1, 0}, {1, 1, 2}, {1, 2, 0}, {1, 2, 1}});
-        dice = Texts.game(CHICKEN);
+        dice = Texts.game(Games.CHICKEN);
         dice.weigh(0, 0, 2);
         dice.weigh(0, 1, 3);
         dice.weigh(1, 0, 5);
@@ -330,7 +319,7 @@ public final class PromisesTest {
     }
 
     private static void count() {
-        ObedientDice dice = Texts.game(CHICKEN);
+        ObedientDice dice = Texts.game(Games.CHICKEN);
         dice.roll(40);
         dice.weigh(1, 1, 8);
         Texts.put(dice, "1,2;");
@@ -351,7 +340,7 @@ public final class PromisesTest {
         Due.is("points of 1 by those of now", dice.count(9), 100000 - 9 * a + 7 * b + 2 * c);
         Due.is("pad", dice.count(11), 4);
         Due.is("changes", dice.count(12), 4);
-        dice = Texts.game(CHICKEN);
+        dice = Texts.game(Games.CHICKEN);
         dice.weigh(0, 0, 3);
         Due.is("broken for the rows 0 and 1", dice.count(5), 4);
         dice.weigh(0, 1, 2);
@@ -396,22 +385,22 @@ public final class PromisesTest {
     }
 
     private static void extreme() {
-        ObedientDice dice = Texts.game(BATTLE);
+        ObedientDice dice = Texts.game(Games.BATTLE);
         Due.is("extremes", dice.count(6), 5);
-        extreme(dice, 0, 1, 0, 0, 0);
-        extreme(dice, 1, 5, 0, 3, 5, BAD_VALUE, BAD_VALUE, 13, 13, 6);
-        extreme(dice, 2, 3, 5, 0, 3, BAD_VALUE, BAD_VALUE, 11, 11, 9);
+        Games.extremeIs(dice, 0, 1, 0, 0, 0);
+        Games.extremeIs(dice, 1, 5, 0, 3, 5, BAD_VALUE, BAD_VALUE, 13, 13, 6);
+        Games.extremeIs(dice, 2, 3, 5, 0, 3, BAD_VALUE, BAD_VALUE, 11, 11, 9);
         // each player throws a die of its own: 5/8 and 3/8, 3/8 and 5/8
-        extreme(dice, 3, 15, 25, 9, 15, BAD_VALUE, BAD_VALUE, 64, 15, 15);
-        extreme(dice, 4, 0, 0, 0, 1, BAD_VALUE, BAD_VALUE, 1, 8, 5);
-        dice = Texts.game(PENNIES);
+        Games.extremeIs(dice, 3, 15, 25, 9, 15, BAD_VALUE, BAD_VALUE, 64, 15, 15);
+        Games.extremeIs(dice, 4, 0, 0, 0, 1, BAD_VALUE, BAD_VALUE, 1, 8, 5);
+        dice = Texts.game(Games.PENNIES);
         Due.is("extremes", dice.count(6), 1);
-        extreme(dice, 0, 1, 1, 1, 1, BAD_VALUE, BAD_VALUE, 4, 15, 15);
-        dice = Texts.game(STEEP);
+        Games.extremeIs(dice, 0, 1, 1, 1, 1, BAD_VALUE, BAD_VALUE, 4, 15, 15);
+        dice = Texts.game(Games.STEEP);
         Due.is("extremes", dice.count(6), 11);
-        extreme(dice, 0, 1001, 910, 0, 0, 260, 220, 2391, 51, 19);
-        extreme(dice, 4, 1001, 910, 0, 286, 5460, 4400, 12057, 59, 39);
-        extreme(dice, 10, 0, 0, 0, 0, 0, 1, 1, 32, 61);
+        Games.extremeIs(dice, 0, 1001, 910, 0, 0, 260, 220, 2391, 51, 19);
+        Games.extremeIs(dice, 4, 1001, 910, 0, 286, 5460, 4400, 12057, 59, 39);
+        Games.extremeIs(dice, 10, 0, 0, 0, 0, 0, 1, 1, 32, 61);
         Due.is("no such dice", dice.extreme(11, 9), NO_SUCH);
         Due.is("no such value", dice.extreme(10, 9), BAD_VALUE);
         for (int wrong : WRONG) {
@@ -422,17 +411,17 @@ public final class PromisesTest {
         dice.points(0, 1, 2, -9);
         Due.is("other points, other dice", dice.count(6) == 11 && dice.extreme(10, 5) == 1 ? 1 : 0, 0);
         dice.undo();
-        extreme(dice, 0, 1001, 910, 0, 0, 260, 220, 2391, 51, 19);
+        Games.extremeIs(dice, 0, 1001, 910, 0, 0, 260, 220, 2391, 51, 19);
     }
 
     private static void best() {
-        ObedientDice dice = Texts.game(CHICKEN);
+        ObedientDice dice = Texts.game(Games.CHICKEN);
         Due.is("best(0, 0)", dice.best(0, 0), 4);
         Due.is("best(0, 1)", dice.best(0, 1), 107000);
         Due.is("best(1, 1)", dice.best(1, 1), 107000);
         Due.is("best(2, 0)", dice.best(2, 0), 0);
         Due.is("best(2, 1)", dice.best(2, 1), 110500);
-        dice = Texts.game(PENNIES);
+        dice = Texts.game(Games.PENNIES);
         Due.is("best(0, 0)", dice.best(0, 0), 0);
         Due.is("best(0, 1)", dice.best(0, 1), 100000);
         dice = new ObedientDice();
@@ -451,13 +440,13 @@ public final class PromisesTest {
     }
 
     private static void neverTold() {
-        ObedientDice dice = Texts.game("3,3;0,5/5,0;1,1");
+        ObedientDice dice = Texts.game(Games.PRISON);
         Due.is("never the row 0", dice.neverTold(0), 1);
         Due.is("never the column 0", dice.neverTold(1), 1);
         dice = Texts.game("0,0;0,1;0,2/0,0;0,1;0,2");
         Due.is("each row", dice.neverTold(0), 0);
         Due.is("the third column alone", dice.neverTold(1), 3);
-        dice = Texts.game(PENNIES);
+        dice = Texts.game(Games.PENNIES);
         Due.is("each row", dice.neverTold(0), 0);
         Due.is("each column", dice.neverTold(1), 0);
         for (int wrong : new int[] {-1, 2, Integer.MIN_VALUE, Integer.MAX_VALUE}) {
@@ -467,9 +456,9 @@ public final class PromisesTest {
 
     private static void sure() {
         Due.is("all", new ObedientDice().sure(), 15);
-        Due.is("none", Texts.game(PENNIES).sure(), 0);
-        Due.is("two", Texts.game(BATTLE).sure(), 9);
-        Due.is("two", Texts.game(CHICKEN).sure(), 6);
+        Due.is("none", Texts.game(Games.PENNIES).sure(), 0);
+        Due.is("two", Texts.game(Games.BATTLE).sure(), 9);
+        Due.is("two", Texts.game(Games.CHICKEN).sure(), 6);
         Due.is("of six", Texts.game("1,0;0,0;2,0/0,0;1,0;2,0").sure(), 1 + 4 + 16 + 32);
         Due.is("of six", Texts.game("0,1;0,0;0,2/0,2;0,2;0,1").sure(), 4 + 8 + 16);
     }
@@ -512,7 +501,7 @@ public final class PromisesTest {
     }
 
     private static void fault() {
-        String[] right = {CHICKEN, PENNIES, STEEP, "-0,-0;-0,-0/-0,-0;-0,-0", "0,0;0,0;0,0/0,0;0,0;0,0",
+        String[] right = {Games.CHICKEN, Games.PENNIES, Games.STEEP, "-0,-0;-0,-0/-0,-0;-0,-0", "0,0;0,0;0,0/0,0;0,0;0,0",
             "-9,-9;-9,-9;-9,-9/-9,-9;-9,-9;-9,-9"};
         for (String text : right) {
             Due.is("fault of " + text, Texts.fault(text), NONE);
@@ -543,7 +532,7 @@ public final class PromisesTest {
     }
 
     private static void undo() {
-        ObedientDice dice = Texts.game(CHICKEN);
+        ObedientDice dice = Texts.game(Games.CHICKEN);
         dice.weigh(0, 0, 5);
         Due.is("undo", dice.undo(), 1);
         weights("after undo", dice, 1, 1, 1, 1);
@@ -584,7 +573,7 @@ public final class PromisesTest {
     }
 
     private static void save() {
-        ObedientDice dice = Texts.game(CHICKEN);
+        ObedientDice dice = Texts.game(Games.CHICKEN);
         dice.roll(11);
         Texts.put(dice, "1,");
         Due.is("save(1)", dice.save(1), 11);
@@ -608,7 +597,7 @@ public final class PromisesTest {
     }
 
     private static void restore() {
-        ObedientDice dice = Texts.game(CHICKEN);
+        ObedientDice dice = Texts.game(Games.CHICKEN);
         Due.is("restore of nothing", dice.restore(0), NOT_POSSIBLE);
         Due.is("restore of nothing", dice.restore(1), NOT_POSSIBLE);
         for (int wrong : new int[] {-1, 2, Integer.MIN_VALUE, Integer.MAX_VALUE}) {

@@ -2,8 +2,9 @@ import java.util.Random;
 
 /** Random runs of calls, each answer compared with that of SlowDice; the same runs every time. */
 public final class RandomRunsTest {
-    private static final int RUNS = 400;
-    private static final int CALLS = 512;
+    private static final int RUNS = 600;
+    // behind these come at most 9 calls of the last step, and some 200 that look at all; more than 512 are not promised
+    private static final int CALLS = 290;
     private static final int[] ODD = {Integer.MIN_VALUE, Integer.MAX_VALUE, -1, -2, -100, 6, 7, 9, 10, 13, 100, 1000};
 
     private final Random random;
@@ -42,11 +43,11 @@ public final class RandomRunsTest {
     }
 
     private int column() {
-        return about(0, fast.count(0) - 1);
+        return about(0, slow.count(0) - 1);
     }
 
     private int number() {
-        return about(0, Math.max(0, fast.count(6) - 1));
+        return about(0, Math.max(0, slow.count(6) - 1));
     }
 
     private void change() {
@@ -164,7 +165,7 @@ public final class RandomRunsTest {
                 break;
             }
             case 1: case 2: {
-                int number = about(0, fast.count(2) - 1);
+                int number = about(0, slow.count(2) - 1);
                 Due.is("inequality", fast.inequality(number, what % 6), slow.inequality(number, what % 6));
                 break;
             }
@@ -194,26 +195,44 @@ public final class RandomRunsTest {
         }
     }
 
-    /** Everything that can be asked, at the end of a run. */
+    /** All that there is, at the end of a run. */
     private void lookAtAll() {
-        for (int what = -1; what < 14; what++) {
+        for (int what = 0; what < 13; what++) {
             Due.is("count(" + what + ")", fast.count(what), slow.count(what));
-            for (int i = -1; i <= fast.count(6); i++) {
-                Due.is("extreme(" + i + ", " + what + ")", fast.extreme(i, what), slow.extreme(i, what));
+        }
+        for (int number = 0; number < slow.count(6); number++) {
+            for (int what = 0; what < 9; what++) {
+                Due.is("extreme(" + number + ", " + what + ")", fast.extreme(number, what), slow.extreme(number, what));
             }
-            for (int i = -1; i < 9; i++) {
-                Due.is("inequality(" + i + ", " + what + ")", fast.inequality(i, what), slow.inequality(i, what));
-                Due.is("best(" + i + ", " + what + ")", fast.best(i, what), slow.best(i, what));
-                Due.is("cell(.., " + what + ")", fast.cell(i / 3, i % 3, what), slow.cell(i / 3, i % 3, what));
+        }
+        for (int number = 0; number < slow.count(2); number++) {
+            for (int what = 0; what < 5; what++) {
+                Due.is("inequality(" + number + ", " + what + ")", fast.inequality(number, what),
+                    slow.inequality(number, what));
             }
-            Due.is("worth(" + what + ")", fast.worth(what), slow.worth(what));
-            Due.is("neverTold(" + what + ")", fast.neverTold(what), slow.neverTold(what));
+        }
+        for (int cell = 0; cell < slow.count(1); cell++) {
+            int row = cell / slow.count(0);
+            int column = cell % slow.count(0);
+            for (int what = 0; what < 6; what++) {
+                Due.is("cell(" + row + ", " + column + ", " + what + ")", fast.cell(row, column, what),
+                    slow.cell(row, column, what));
+            }
+        }
+        for (int player = 0; player < 3; player++) {
+            Due.is("worth(" + player + ")", fast.worth(player), slow.worth(player));
+            Due.is("best(" + player + ", 0)", fast.best(player, 0), slow.best(player, 0));
+            Due.is("best(" + player + ", 1)", fast.best(player, 1), slow.best(player, 1));
+            Due.is("neverTold(" + player + ")", fast.neverTold(player), slow.neverTold(player));
         }
         Due.is("sure()", fast.sure(), slow.sure());
+        Due.is("fault()", fast.fault(), slow.fault());
     }
 
     private void run() {
-        for (int call = 0; call < CALLS && Due.noneWrong(); call++) {
+        // each call is compared, so the answers asked for are the calls
+        int before = Due.asked();
+        while (Due.asked() - before < CALLS && Due.noneWrong()) {
             int kind = below(20);
             if (kind < 8) {
                 change();
